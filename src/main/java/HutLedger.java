@@ -62,6 +62,7 @@ public final class HutLedger {
     private static final int TOO_MANY = 3;
 
     private final Hut present = new Hut();
+    // Setups are read into this one, and no action is ever done in it: it stays at hour 0.
     private final Hut draft = new Hut();
     private final Planner planner = new Planner();
     private final History history = new History();
@@ -542,15 +543,6 @@ public final class HutLedger {
         int warmth;
         final int[] hours = new int[ACTIVITIES];
 
-        void arrive() {
-            debt = 0;
-            bunk = NONE;
-            blanket = NONE;
-            for (int i = 0; i < hours.length; i++) {
-                hours[i] = 0;
-            }
-        }
-
         void copyFrom(Hiker other) {
             need = other.need;
             snore = other.snore;
@@ -621,24 +613,15 @@ public final class HutLedger {
             for (int i = 0; i < hikers.length; i++) {
                 hikers[i] = new Hiker();
             }
-        }
-
-        /** Starts hour 0, after a setup has put in the building, the logs and the hikers. */
-        void open() {
-            hour = 0;
-            heat = 0;
-            rate = 0;
-            paidCoins = 0;
-            burned = 0;
-            burnedSinceDawn = 0;
-            receivedLogs = logs;
-            firstCoins = sumOfCoins();
-            for (int i = 0; i < hikerCount; i++) {
-                hikers[i].arrive();
-            }
             for (int i = 0; i < sleepers.length; i++) {
                 sleepers[i] = NONE;
             }
+        }
+
+        /** Ends the reading of a setup, which is only ever read into a hut in which no action was. */
+        void open() {
+            receivedLogs = logs;
+            firstCoins = sumOfCoins();
             measure();
         }
 

@@ -75,6 +75,14 @@ public final class PromiseTest {
     private static void needsAndSnoresOfTheFirstHut() {
         int[] needs = {10, 7, 12, 9};
         int[] snores = {8, 2, 0, 5};
+        HutLedger warm = new HutLedger();
+        warm.setRate(3);
+        warm.passHours(1);
+        for (int i = 0; i < snores.length; i++) {
+            warm.lieDown(i, 0);
+            c.same("snore of " + i, snores[i], warm.noiseIn(1));
+            warm.getUp(i);
+        }
         for (int i = 0; i < needs.length; i++) {
             for (int temperature = needs[i] - 1; temperature <= needs[i]; temperature++) {
                 HutLedger x = Checks.hut(FIRST.replace("6 3 1 4", "" + temperature));
@@ -202,6 +210,13 @@ public final class PromiseTest {
         wrong(1, 0, "Hut 1;");
         wrong(1, 0, "huts 1;");
         wrong(1, 0, "hu");
+        wrong(1, 0, "hutz 1;");
+        wrong(1, 0, "ahut 1;");
+        wrong(1, 0, "but 1;");
+        wrong(1, 3, "hut{1;");
+        wrong(1, 3, "hut`1;");
+        wrong(1, 3, "hut/1;");
+        wrong(1, 3, "hut:1;");
         wrong(1, 3, "hut");
         wrong(1, 4, "hut ;");
         wrong(1, 4, "hut -1;");
@@ -283,6 +298,12 @@ public final class PromiseTest {
         c.same("pay", 4, Checks.script(poor, "take 1 0;pass 8;pay 0 1;pay 0 1;pay 0 2;"));
         c.same("ledger", "a=1-1/0 b=0/0", Checks.ledger(poor));
         c.same("30 commands", 30, Checks.script(x, "burn 1;".repeat(30)));
+        HutLedger large = Checks.hut("hut 1;bunks" + " 0".repeat(12) + ";blankets" + " 1".repeat(12) + ";forecast 1;"
+                + "hiker 1 0 0;".repeat(10));
+        c.same("the greatest numbers", 7, Checks.script(large,
+                "take 9 11;swap 9 8;lie 9 11;swap 8 9;rise 9;return 9;burn 0;swap 0 9;"));
+        c.same("the lowest numbers", 6, Checks.script(large, "take 0 0;swap 0 1;lie 0 0;swap 1 0;fetch 1;pass 1;"));
+        c.same("wrong now, but no errors", 0, Checks.script(large, "pay 9 99;pay 0 1;"));
         c.same("no blanks between", 2, Checks.script(x, "burn3;take0 1;"));
     }
 
@@ -464,6 +485,10 @@ public final class PromiseTest {
         c.begin("promise 15");
         HutLedger x = new HutLedger();
         c.same("longestRow", 0, x.longestRow());
+        x.lieDown(0, 0);
+        c.same("longestRow", 1, x.longestRow());
+        x.lieDown(1, 1);
+        c.same("longestRow", 2, x.longestRow());
         x.lieDown(0, 4);
         c.same("longestRow", 1, x.longestRow());
         x.lieDown(1, 2);
@@ -712,6 +737,9 @@ public final class PromiseTest {
         c.same("one alone does not help", -1, y.worstSnorer());
         y.lieDown(0, 3);
         c.same("worstSnorer", 2, y.worstSnorer());
+        HutLedger z = Checks.hut(house + "hiker 1 6 0;hiker 1 0 0;hiker 1 6 0;");
+        Checks.script(z, "lie 0 0;lie 1 1;lie 2 2;");
+        c.same("noise 6 lets sleep", 0, z.worstSnorer());
     }
 
     // ---- fairness
@@ -760,6 +788,7 @@ public final class PromiseTest {
         c.same("none needed", 0, Checks.hut(house + "hiker 6 0 0;".repeat(5)).fewestCold());
         String bare = "hut 0;bunks 0;blankets;forecast 6;";
         c.same("no blankets", 2, Checks.hut(bare + "hiker 7 0 0;hiker 6 0 0;hiker 8 0 0;").fewestCold());
+        c.same("more than needed", 0, Checks.hut(house + "hiker 7 0 0;hiker 6 0 0;").fewestCold());
         String nine = "hut 0;bunks 0;blankets 9 9;forecast 6;";
         c.same("the thickest", 1, Checks.hut(nine + "hiker 15 0 0;hiker 15 0 0;hiker 16 0 0;").fewestCold());
     }
@@ -786,6 +815,12 @@ public final class PromiseTest {
         HutLedger z = Checks.hut("hut 0;bunks 0;blankets 4 1;forecast 6;hiker 10 0 0;hiker 6 0 0;hiker 7 0 0;");
         Checks.script(z, "take 0 1;take 2 0;");
         c.same("the pair that saves two", 2, z.bestExchange());
+        HutLedger cold = Checks.hut("hut 0;bunks 0;blankets 4 1;forecast 6;hiker 10 0 0;hiker 30 0 0;hiker 10 0 0;");
+        Checks.script(cold, "take 0 1;take 1 0;");
+        c.same("the second one stays cold", 1, cold.bestExchange());
+        HutLedger first = Checks.hut("hut 0;bunks 0;blankets 4;forecast 6;hiker 30 0 0;hiker 10 0 0;");
+        first.takeBlanket(0, 0);
+        c.same("the first one stays cold", 1, first.bestExchange());
         HutLedger two = Checks.hut("hut 0;bunks 0;blankets 4 3;forecast 6;hiker 10 0 0;hiker 6 0 0;hiker 9 0 0;");
         Checks.script(two, "take 1 1;take 2 0;");
         c.same("two exchanges would help, one does not", -1, two.bestExchange());
@@ -813,6 +848,8 @@ public final class PromiseTest {
         c.same("the own place warms nobody any more", 1, own.warmestBunk(0));
         own.lieDown(1, 1);
         c.same("the own one beside the other", 1, own.warmestBunk(1));
+        c.same("the lowest", 0, Checks.hut("hut 0;bunks 5 0;blankets;forecast 0;hiker 1 0 0;").warmestBunk(0));
+        c.same("warmth 0", 0, Checks.hut("hut 0;bunks 0 0;blankets;forecast 0;hiker 1 0 0;").warmestBunk(0));
         HutLedger full = Checks.hut("hut 0;bunks 0;blankets;forecast 10;hiker 1 0 0;hiker 1 0 0;");
         full.lieDown(1, 0);
         c.same("no such bunk", -1, full.warmestBunk(0));
@@ -892,6 +929,10 @@ public final class PromiseTest {
         x.getUp(1);
         x.passHours(6);
         c.same("sleepShare", 1.0f / 21.0f, x.sleepShare());
+        HutLedger alone = Checks.hut("hut 0;bunks 0;blankets;forecast 10;hiker 1 0 0;");
+        alone.lieDown(0, 0);
+        alone.passHours(1);
+        c.same("sleepShare", 1.0f, alone.sleepShare());
     }
 
     // ---- predictions
@@ -1298,6 +1339,9 @@ public final class PromiseTest {
         c.same("one bunk", "j", Checks.bunks(y));
         y.takeBlanket(9, 0);
         c.same("one bunk", "j9", Checks.bunks(y));
+        HutLedger thin = Checks.hut("hut 0;bunks 0;blankets 1;forecast 9;hiker 1 0 0;");
+        Checks.script(thin, "take 0 0;lie 0 0;");
+        c.same("thickness 1", "a1", Checks.bunks(thin));
     }
 
     private static void promise61() {
