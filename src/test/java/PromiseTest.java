@@ -878,6 +878,7 @@ public final class PromiseTest {
         c.same("hutCoins", 11 + 5 + 11 + 1 + 1, x.hutCoins());
         c.same("burnedLogs", 16, x.burnedLogs());
         c.same("totalDebt", 18, x.totalDebt());
+        c.same("totalDebt", 9, indebted().totalDebt());
         x.fetchLogs(10);
         x.passHours(40);
         c.same("burnedLogs", 30, x.burnedLogs());
@@ -899,6 +900,13 @@ public final class PromiseTest {
         c.same("a rest of 2 goes to the hut", 5, rest.hutCoins());
         c.same("auditDifference", 0, rest.auditDifference());
         logCosts();
+    }
+
+    private static HutLedger indebted() {
+        HutLedger x = Checks.hut("hut 0;bunks 0;blankets;forecast 1;hiker 1 0 1;hiker 1 0 9;hiker 1 0 2;");
+        x.passHours(16);
+        c.same("ledger", "a=0-5/0 b=3/0 c=0-4/0", Checks.ledger(x));
+        return x;
     }
 
     private static void logCosts() {
