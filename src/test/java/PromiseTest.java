@@ -814,7 +814,7 @@ public final class PromiseTest {
         c.same("both use one", 1, y.bestExchange());
         HutLedger z = Checks.hut("hut 0;bunks 0;blankets 4 1;forecast 6;hiker 10 0 0;hiker 6 0 0;hiker 7 0 0;");
         Checks.script(z, "take 0 1;take 2 0;");
-        c.same("the pair that saves two", 2, z.bestExchange());
+        c.same("the cold one with the one whose blanket is thick enough", 2, z.bestExchange());
         HutLedger cold = Checks.hut("hut 0;bunks 0;blankets 4 1;forecast 6;hiker 10 0 0;hiker 30 0 0;hiker 10 0 0;");
         Checks.script(cold, "take 0 1;take 1 0;");
         c.same("the second one stays cold", 1, cold.bestExchange());
