@@ -453,6 +453,8 @@ final class HutEdges {
             HutLedger x = Edges.hut(bunks + hikers, "lie 0 1;lie 2 0;lie 1 2;");
             e.same("between " + two[0] + " and " + two[1], two[2], x.worstSnorer());
         }
+        e.same("the first hiker", 0, Edges.hut(bunks + "hiker 1 7 0;" + quiet, "lie 0 0;lie 1 1;").worstSnorer());
+        e.same("the last hiker", 9, Edges.hut(bunks + quiet.repeat(9) + "hiker 1 7 0;", "lie 0 0;lie 9 1;").worstSnorer());
         HutLedger most = Edges.hut(bunks + quiet + quiet + quiet + "hiker 1 9 0;hiker 1 9 0;",
                 "lie 0 0;lie 1 2;lie 2 5;lie 3 4;lie 4 1;");
         e.same("two rather than one", 4, most.worstSnorer());
@@ -560,7 +562,11 @@ final class HutEdges {
         e.same("a degree too thin", NONE, thin.bestExchange());
         HutLedger both = Edges.hut("hut 0;bunks 0;blankets 4 3;forecast 9;hiker 12 0 0;hiker 13 0 0;", "take 0 0;take 1 1;");
         e.same("both use one", 1, both.bestExchange());
-        HutLedger pile = Edges.hut("hut 0;bunks 0;blankets 4;forecast 9;hiker 9 0 0;hiker 13 0 0;", "");
+        HutLedger frozen = Edges.hut("hut 0;bunks 0;blankets 4;forecast 9;hiker 13 0 0;hiker 30 0 0;", "take 1 0;");
+        e.same("the second stays cold", 1, frozen.bestExchange());
+        HutLedger first = Edges.hut("hut 0;bunks 0;blankets 4;forecast 9;hiker 30 0 0;hiker 13 0 0;", "take 0 0;");
+        e.same("the first stays cold", 1, first.bestExchange());
+        HutLedger pile = Checks.hut("hut 0;bunks 0;blankets 4;forecast 9;hiker 9 0 0;hiker 13 0 0;");
         e.same("the pile is no hiker", NONE, pile.bestExchange());
     }
 

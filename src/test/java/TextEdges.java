@@ -22,6 +22,7 @@ final class TextEdges {
         numbersOfAnyLength();
         blanks();
         setupGrammar();
+        wordsOfASetup();
         hikerGrammar();
         scriptGrammar();
         rangesInAScript();
@@ -146,6 +147,23 @@ final class TextEdges {
         }
     }
 
+    /** Each letter of each word of a setup, replaced by another one. */
+    private void wordsOfASetup() {
+        e.of("Terms", "setup = ");
+        String before = "";
+        for (String part : new String[] {"hut 1;", "bunks 1;", "blankets;", "forecast 1;", "hiker 1 0 0;"}) {
+            for (int i = 0; 'a' <= part.charAt(i) && part.charAt(i) <= 'z'; i++) {
+                e.wrongSetup(1, before + "^" + withZ(part, i));
+            }
+            before += part;
+        }
+        e.rightSetup(1, before);
+    }
+
+    private static String withZ(String text, int place) {
+        return text.substring(0, place) + "z" + text.substring(place + 1);
+    }
+
     private void hikerGrammar() {
         e.of("Terms", "hiker = ");
         String[] wrong = {"^hike 1 0 0;", "^hikers 1 0 0;", "^hikes 1 0 0;", "hiker^", "hiker^;", "hiker ^x",
@@ -182,7 +200,9 @@ final class TextEdges {
         e.wrongScript(1, "^" + word.substring(1) + " 1 1;");
         e.wrongScript(1, "^" + word.substring(0, word.length() - 1) + " 1 1;");
         e.wrongScript(1, "^" + word + "s 1 1;");
-        e.wrongScript(1, "^" + word.substring(0, word.length() - 1) + "z 1 1;");
+        for (int i = 0; i < word.length(); i++) {
+            e.wrongScript(1, "^" + withZ(command, i) + ";");
+        }
         e.wrongScript(1, word + "^");
         e.wrongScript(1, word + "^;");
         e.wrongScript(1, word + " ^x;");

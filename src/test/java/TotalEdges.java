@@ -211,6 +211,12 @@ final class TotalEdges {
             x.passHours(1);
         }
         e.same("after the dawn", 3, x.paymentAtDawn(0));
+        for (int rate = 0; rate <= 3; rate++) {
+            HutLedger night = Edges.hut("hut 99;bunks 0;blankets;forecast 1;hiker 1 0 0;", "burn " + rate + ";");
+            e.same("logs for the whole night", 3 + 2 * 8 * rate, night.paymentAtDawn(0));
+            night.passHours(6);
+            e.same("two hours before the dawn", 3 + 2 * 8 * rate, night.paymentAtDawn(0));
+        }
         HutLedger last = Edges.hut("hut 1;bunks 0;blankets;forecast 1;hiker 1 0 0;", "pass 7;burn 1;");
         e.same("in the last hour of the night", 5, last.paymentAtDawn(0));
         last.setRate(0);
