@@ -13,6 +13,7 @@ public final class RandomRunsTest {
             "passHours", "takeBlanket", "takeBlanket", "undo", "saveSnapshot", "restoreSnapshot");
 
     private final Random random;
+    private final boolean isCrowded;
     private final HutLedger ledger = new HutLedger();
     private final HutModel model = new HutModel();
     private final List<String> told = new ArrayList<>();
@@ -20,6 +21,8 @@ public final class RandomRunsTest {
 
     private RandomRunsTest(long seed) {
         random = new Random(seed);
+        // Calls with any numbers seldom fill a hut: half of the runs ask for what there is, in full huts.
+        isCrowded = seed % 2 == 0;
     }
 
     public static void main(String[] args) throws ReflectiveOperationException {
@@ -45,12 +48,12 @@ public final class RandomRunsTest {
         List<Method> face = face();
         boolean isOld = seed % 10 == 0;
         if (seed % 3 != 0) {
-            load(setup());
+            loadAny();
         }
         while (calls < CALLS) {
             int dice = random.nextInt(100);
             if (dice < 2) {
-                load(setup());
+                loadAny();
             } else if (dice < 4) {
                 runText(script());
             } else if (isOld && dice < 40) {
@@ -70,7 +73,7 @@ public final class RandomRunsTest {
     private void callSome(Method method) throws ReflectiveOperationException {
         Object[] arguments = new Object[method.getParameterCount()];
         for (int i = 0; i < arguments.length; i++) {
-            arguments[i] = argument(method.getName());
+            arguments[i] = argument(method.getName(), i);
         }
         if (!method.getName().equals("truncateText") && !method.getName().equals("appendText")
                 || random.nextInt(10) == 0) {
@@ -78,10 +81,17 @@ public final class RandomRunsTest {
         }
     }
 
-    private int argument(String name) {
+    private int argument(String name, int place) {
         int dice = random.nextInt(40);
         if (dice == 0) {
             return List.of(-1, Integer.MIN_VALUE, Integer.MAX_VALUE, 100, 97, 96, 12, 500).get(random.nextInt(8));
+        }
+        if (isCrowded && name.equals("payDebt") && place == 0) {
+            return somebodyWhoCanPay();
+        }
+        int count = isCrowded ? countOfThings(name, place) : 0;
+        if (count > 0) {
+            return random.nextInt(count);
         }
         return switch (name) {
             case "temperatureAfter", "debtAfter" -> random.nextInt(dice < 20 ? 10 : 98);
@@ -94,6 +104,37 @@ public final class RandomRunsTest {
             case "outputByte" -> random.nextInt(60) - 1;
             default -> random.nextInt(dice < 25 ? 5 : 13);
         };
+    }
+
+    /** How many hikers, bunks, blankets or ranks there are for an argument; 0 if it is none of these. */
+    private int countOfThings(String name, int place) {
+        int hikers = model.s.hikers.size();
+        int bunks = model.s.heights.size();
+        int blankets = model.s.blankets.size();
+        return switch (name) {
+            case "hikerIn", "noiseIn" -> bunks;
+            case "userOf" -> blankets;
+            case "blanketOnPile" -> model.pileSize();
+            case "takeBlanket" -> place == 0 ? hikers : blankets;
+            case "lieDown" -> place == 0 ? hikers : bunks;
+            case "hoursOf", "debtAfter" -> place == 0 ? hikers : 0;
+            case "bestPlaceFor", "fittingBlanket", "bunkOf", "blanketOf", "warmth", "activity", "coinsOf", "debtOf",
+                    "hikerAtRank", "warmestBunk", "shiversUntilDawn", "paymentAtDawn", "dawnsUntilDebt",
+                    "returnBlanket", "swapBlankets", "getUp" -> hikers;
+            default -> 0;
+        };
+    }
+
+    private int somebodyWhoCanPay() {
+        int hikers = model.s.hikers.size();
+        int first = random.nextInt(hikers);
+        for (int i = 0; i < hikers; i++) {
+            int hiker = (first + i) % hikers;
+            if (model.debtOf(hiker) > 0 && model.coinsOf(hiker) > 0) {
+                return hiker;
+            }
+        }
+        return first;
     }
 
     private void call(String name, Object... arguments) throws ReflectiveOperationException {
@@ -121,6 +162,15 @@ public final class RandomRunsTest {
     }
 
     // ---- texts
+
+    private void loadAny() throws ReflectiveOperationException {
+        if (isCrowded) {
+            load(crowdedSetup());
+            runText(beddingScript());
+        } else {
+            load(setup());
+        }
+    }
 
     private void load(String text) throws ReflectiveOperationException {
         type(text);
@@ -188,6 +238,38 @@ public final class RandomRunsTest {
             text.append(' ').append(upTo(9)).append(' ').append(upTo(random.nextBoolean() ? 99 : 20)).append(';');
         }
         return text.toString();
+    }
+
+    /** Many hikers who need little warmth, snore much and are mostly poor, and about as many bunks. */
+    private String crowdedSetup() {
+        int hikers = 5 + upTo(5);
+        StringBuilder text = new StringBuilder("hut ").append(upTo(99)).append("; bunks");
+        row(text, hikers - 2, 12, 0, random.nextBoolean() ? 1 : 5);
+        text.append(" blankets");
+        row(text, 0, hikers, 1, 9);
+        text.append(" forecast");
+        row(text, 1, 12, random.nextBoolean() ? 4 : 0, 12);
+        int need = 6 + upTo(12);
+        for (int i = 0; i < hikers; i++) {
+            text.append(" hiker ").append(Math.min(30, need + upTo(6))).append(' ').append(upTo(9));
+            text.append(' ').append(random.nextInt(3) == 0 ? 20 + upTo(79) : upTo(4)).append(';');
+        }
+        return text.toString();
+    }
+
+    private String beddingScript() {
+        StringBuilder text = new StringBuilder("burn ").append(upTo(3)).append(';');
+        int bunks = model.s.heights.size();
+        int first = upTo(bunks - 1);
+        for (int i = 0; i < model.s.hikers.size() && i < bunks; i++) {
+            if (random.nextInt(6) > 0) {
+                text.append("lie ").append(i).append(' ').append((first + i) % bunks).append(';');
+            }
+            if (i < model.s.blankets.size() && random.nextBoolean()) {
+                text.append("take ").append(i).append(' ').append(i).append(';');
+            }
+        }
+        return text.append("pass ").append(1 + upTo(20)).append(';').toString();
     }
 
     private String script() {
