@@ -46,9 +46,11 @@ public final class RandomRunsTest {
 
     private void run(long seed) throws ReflectiveOperationException {
         List<Method> face = face();
-        boolean isOld = seed % 10 == 0;
         if (seed % 3 != 0) {
             loadAny();
+        }
+        if (seed % 5 == 0) {
+            comeToTheLastHours();
         }
         while (calls < CALLS) {
             int dice = random.nextInt(100);
@@ -56,14 +58,20 @@ public final class RandomRunsTest {
                 loadAny();
             } else if (dice < 4) {
                 runText(script());
-            } else if (isOld && dice < 40) {
-                call("passHours", 48);
             } else if (dice < 45) {
                 callSome(find(face, ACTIONS.get(random.nextInt(ACTIONS.size()))));
             } else {
                 callSome(face.get(random.nextInt(face.size())));
             }
         }
+    }
+
+    private void comeToTheLastHours() throws ReflectiveOperationException {
+        while (model.hour() < 9900) {
+            call("passHours", 48);
+        }
+        call("setRate", upTo(3));
+        call("saveSnapshot", 0);
     }
 
     private static Method find(List<Method> face, String name) {
